@@ -19,21 +19,14 @@ public final class ConditionsTest {
         sureAvoidAvoids();
         is();
         before();
+        largest();
         noSuchCondition();
         due.end();
     }
 
-    private static PerhapsWas with(int processes) {
-        PerhapsWas x = new PerhapsWas();
-        for (int p = 0; p < processes; p++) {
-            x.process();
-        }
-        return x;
-    }
-
     /** Two processes with two events each, none beside in its row. */
     private static PerhapsWas grid() {
-        PerhapsWas x = with(2);
+        PerhapsWas x = Made.with(2);
         for (int p = 0; p < 2; p++) {
             x.own(p, 0, 1, 0);
             x.own(p, 0, 2, 0);
@@ -250,7 +243,7 @@ public final class ConditionsTest {
     }
 
     private static void parts() {
-        PerhapsWas x = with(1);
+        PerhapsWas x = Made.with(1);
         x.part(1, 0, 1);
         x.condition();
         x.part(2, 3, 0);
@@ -405,6 +398,39 @@ public final class ConditionsTest {
         int around = conditionAtTwo(x, 0, 0, 2, 2);
         due.is("each of them, not only the last", x.before(middle, around), 0);
         due.is("orders without d do not matter", x.before(conditionAt(x, 1, 0), conditionAt(x, 2, 0)), 1);
+    }
+
+    private static void largest() {
+        PerhapsWas x = Made.full();
+        int all = constant(x, 1);
+        int none = constant(x, 0);
+        x.part(0, 0, 2);
+        x.part(0, 1, 2);
+        x.op(0);
+        x.part(0, 2, 2);
+        x.op(0);
+        x.part(0, 3, 2);
+        x.op(0);
+        x.number(23);
+        x.op(3);
+        x.op(7);
+        int late = x.condition();
+        due.is("largest: many", x.many(all), 2401);
+        due.is("largest: last", x.last(all), 2400);
+        due.is("largest: many, late", x.many(late), 5);
+        due.is("largest: may, late", x.may(late), 2057);
+        due.is("largest: avoids", x.avoids(none), 2308743493056L);
+        due.is("largest: avoid", x.avoid(none, 23), 3);
+        due.is("largest: sure", x.sure(late), 1);
+        due.is("largest: before", x.before(all, late), 1);
+        due.is("largest: not before", x.before(late, all), 0);
+        due.is("largest: never before", x.before(none, late), 0);
+        int[][] want = {{1, 1, 1}, {1, 1, 1}, {1, 0, 1}};
+        for (int c = 0; c < 3; c++) {
+            for (int what = 0; what < 3; what++) {
+                due.is("largest: is(" + c + ", " + what + ")", x.is(c, what), want[c][what]);
+            }
+        }
     }
 
     private static void noSuchCondition() {

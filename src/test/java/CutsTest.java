@@ -19,9 +19,7 @@ public final class CutsTest {
 
     /** 0: own, send, own; 1: own, take. */
     private static PerhapsWas letterRun() {
-        PerhapsWas x = new PerhapsWas();
-        x.process();
-        x.process();
+        PerhapsWas x = Made.with(2);
         x.own(0, 0, 1, 0);
         x.send(0, 1);
         x.own(1, 0, 1, 0);
@@ -137,15 +135,11 @@ public final class CutsTest {
     }
 
     private static void largest() {
-        PerhapsWas x = new PerhapsWas();
-        for (int p = 0; p < 4; p++) {
-            x.process();
-            for (int i = 0; i < 6; i++) {
-                x.own(p, 0, i, 0);
-            }
-        }
+        PerhapsWas x = Made.full();
         due.is("most cuts", x.cuts(-1), 2401);
         due.is("most cuts of size 12", x.cuts(12), 231);
+        due.is("cuts of size 24", x.cuts(24), 1);
+        due.is("cuts of size 25", x.cuts(25), 0);
         due.is("the last cut", x.next(2399), 2400);
         due.is("none behind it", x.next(2400), NONE);
         due.is("most orders", x.orders(), 2308743493056L);

@@ -23,20 +23,6 @@ public final class EventsTest {
         due.end();
     }
 
-    private static PerhapsWas with(int processes) {
-        PerhapsWas x = new PerhapsWas();
-        for (int p = 0; p < processes; p++) {
-            x.process();
-        }
-        return x;
-    }
-
-    private static void fill(PerhapsWas x, int p) {
-        for (int i = 0; i < 6; i++) {
-            x.own(p, 0, i, 0);
-        }
-    }
-
     private static void constants() {
         due.is("NONE", NONE, -1);
         due.is("BAD", BAD, -2);
@@ -70,7 +56,7 @@ public final class EventsTest {
     }
 
     private static void own() {
-        PerhapsWas x = with(1);
+        PerhapsWas x = Made.with(1);
         due.is("own of no process", x.own(1, 0, 1, 0), NONE);
         due.is("own of process -1", x.own(-1, 0, 1, 0), NONE);
         due.is("own of process LOW", x.own(LOW, 0, 1, 0), NONE);
@@ -91,7 +77,7 @@ public final class EventsTest {
     }
 
     private static void ownsValues() {
-        PerhapsWas x = with(2);
+        PerhapsWas x = Made.with(2);
         x.part(0, 0, 1);
         x.condition();
         x.own(0, 1, HIGH, 0);
@@ -108,7 +94,7 @@ public final class EventsTest {
     }
 
     private static void send() {
-        PerhapsWas x = with(2);
+        PerhapsWas x = Made.with(2);
         due.is("send from none", x.send(2, 0), NONE);
         due.is("send to none", x.send(0, 2), NONE);
         due.is("send to -1", x.send(0, -1), NONE);
@@ -127,7 +113,7 @@ public final class EventsTest {
     }
 
     private static void take() {
-        PerhapsWas x = with(2);
+        PerhapsWas x = Made.with(2);
         due.is("take of none", x.take(0), NONE);
         x.send(0, 1);
         due.is("take of -1", x.take(-1), NONE);
@@ -139,7 +125,7 @@ public final class EventsTest {
         x.send(0, 1);
         x.send(0, 1);
         due.is("take the later one first", x.take(2), 3);
-        fill(x, 1);
+        Made.fill(x, 1);
         due.is("take, FULL", x.take(1), FULL);
         due.is("take, STATE ahead of FULL", x.take(2), STATE);
         due.is("take, NONE ahead of FULL", x.take(3), NONE);
@@ -147,7 +133,7 @@ public final class EventsTest {
     }
 
     private static void waiting() {
-        PerhapsWas x = with(3);
+        PerhapsWas x = Made.with(3);
         due.is("wait of none", x.wait(3, 0), NONE);
         due.is("wait for none", x.wait(0, 3), NONE);
         due.is("wait of -1", x.wait(-1, 0), NONE);
@@ -161,14 +147,14 @@ public final class EventsTest {
         due.is("all so far are ahead of it", x.ahead(1, 0, 0, 1), 1);
         due.is("wait of a third", x.wait(2, 0), 1);
         due.is("through another", x.ahead(1, 0, 2, 0), 1);
-        fill(x, 0);
+        Made.fill(x, 0);
         due.is("wait, FULL", x.wait(0, 1), FULL);
         due.is("wait, BAD ahead of FULL", x.wait(0, 0), BAD);
         due.is("wait, NONE ahead of FULL", x.wait(0, 3), NONE);
     }
 
     private static void undo() {
-        PerhapsWas x = with(3);
+        PerhapsWas x = Made.with(3);
         due.is("undo of none", x.undo(), STATE);
         x.own(2, 0, 1, 0);
         x.send(0, 1);
@@ -192,7 +178,7 @@ public final class EventsTest {
     }
 
     private static void undoneClocksAndValues() {
-        PerhapsWas x = with(2);
+        PerhapsWas x = Made.with(2);
         x.part(0, 1, 0);
         x.condition();
         x.own(0, 0, 1, 0);
@@ -212,7 +198,7 @@ public final class EventsTest {
     }
 
     private static PerhapsWas allKinds() {
-        PerhapsWas x = with(3);
+        PerhapsWas x = Made.with(3);
         x.own(0, 2, 9, 0);
         x.own(0, 1, 9, 1);
         x.send(1, 2);

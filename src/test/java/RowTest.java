@@ -15,9 +15,7 @@ public final class RowTest {
 
     /** 0: own, send; 1: own, take. */
     private static PerhapsWas letterRun() {
-        PerhapsWas x = new PerhapsWas();
-        x.process();
-        x.process();
+        PerhapsWas x = Made.with(2);
         x.own(0, 0, 1, 0);
         x.own(1, 0, 1, 0);
         x.send(0, 1);
@@ -63,13 +61,7 @@ public final class RowTest {
     }
 
     private static void longest() {
-        PerhapsWas x = new PerhapsWas();
-        for (int p = 0; p < 4; p++) {
-            x.process();
-            for (int i = 0; i < 6; i++) {
-                x.own(p, 0, i, 0);
-            }
-        }
+        PerhapsWas x = Made.full();
         tell(x, "012301230123012301230123");
         due.is("check() of 24", x.check(), 100);
         tell(x, "012301230123012301230120");
