@@ -25,6 +25,7 @@ public final class PerhapsWas {
 
     private final History history;
     private final Net net;
+    private final Pile pile;
     private final Conditions conditions;
     private final Moment moment;
     private final Marks marks;
@@ -35,6 +36,7 @@ public final class PerhapsWas {
     public PerhapsWas() {
         history = new History();
         net = new Net(history);
+        pile = new Pile();
         conditions = new Conditions();
         moment = new Moment(history);
         marks = new Marks(moment);
@@ -219,8 +221,7 @@ public final class PerhapsWas {
     // ---- conditions
 
     public int number(int v) {
-        Formula pile = conditions.pile();
-        return pile.hasRoom() ? pile.push(NUMBER, v, 0) : FULL;
+        return pile.tops >= MOST_TOPS ? FULL : pile.push(NUMBER, v, 0);
     }
 
     public int part(int what, int a, int b) {
@@ -230,8 +231,7 @@ public final class PerhapsWas {
         if ((what == 1 && a == b) || (what == 2 && b != 0)) {
             return BAD;
         }
-        Formula pile = conditions.pile();
-        return pile.hasRoom() ? pile.push(NAME + what, a, b) : FULL;
+        return pile.tops >= MOST_TOPS ? FULL : pile.push(NAME + what, a, b);
     }
 
     private static boolean mayBeProcess(int p) {
@@ -242,26 +242,33 @@ public final class PerhapsWas {
         if (op < PLUS || op > NOT) {
             return NONE;
         }
-        Formula pile = conditions.pile();
         if (pile.tops < Formula.sidesOf(op)) {
             return STATE;
         }
-        return pile.parts >= MOST_PARTS ? FULL : pile.push(op, 0, 0);
+        return pile.partsBehind(op) > MOST_PARTS ? FULL : pile.unite(op);
     }
 
     public int condition() {
-        if (conditions.pile().tops != 1) {
+        if (pile.tops != 1) {
             return STATE;
         }
-        return conditions.total >= MOST_CONDITIONS ? FULL : conditions.keepPile();
+        if (conditions.total >= MOST_CONDITIONS) {
+            return FULL;
+        }
+        pile.tops = 0;
+        return conditions.keep(pile.formulas[0]);
     }
 
     public int clear(int all) {
         if (all != 0 && all != 1) {
             return BAD;
         }
-        int went = conditions.dropPile();
-        return all == 0 ? went : went + conditions.dropAll();
+        int went = pile.tops + (all == 1 ? conditions.total : 0);
+        pile.tops = 0;
+        if (all == 1) {
+            conditions.total = 0;
+        }
+        return went;
     }
 
     public int value(int c, int cut) {
@@ -363,7 +370,7 @@ public final class PerhapsWas {
             case 4:
                 return conditions.total;
             case 5:
-                return conditions.pile().tops;
+                return pile.tops;
             case 6:
                 return row.length;
             default:
@@ -722,39 +729,69 @@ public final class PerhapsWas {
         final int[] firsts = new int[MOST_PARTS];
         final int[] seconds = new int[MOST_PARTS];
         int parts;
-        int tops;
 
         static int sidesOf(int kind) {
             return kind < NOT ? 2 : kind == NOT ? 1 : 0;
         }
 
-        // No part ever leaves the pile but with all of it, so its parts are those of the condition to come.
-        boolean hasRoom() {
-            return tops < MOST_TOPS && parts < MOST_PARTS;
-        }
-
-        int push(int kind, int first, int second) {
+        void append(int kind, int first, int second) {
             kinds[parts] = kind;
             firsts[parts] = first;
             seconds[parts] = second;
             parts++;
-            tops += 1 - sidesOf(kind);
-            return tops;
         }
 
-        void empty() {
-            parts = 0;
-            tops = 0;
+        void appendAll(Formula other) {
+            for (int k = 0; k < other.parts; k++) {
+                append(other.kinds[k], other.firsts[k], other.seconds[k]);
+            }
         }
     }
 
-    /** The conditions, and behind the last of them the one that is put together on the pile. */
+    /** The formulas that wait to be sides; each has its own parts, so that each is held to its own limit. */
+    private static final class Pile {
+        final Formula[] formulas = new Formula[MOST_TOPS];
+        int tops;
+
+        Pile() {
+            for (int k = 0; k < MOST_TOPS; k++) {
+                formulas[k] = new Formula();
+            }
+        }
+
+        int push(int kind, int first, int second) {
+            formulas[tops].parts = 0;
+            formulas[tops].append(kind, first, second);
+            tops++;
+            return tops;
+        }
+
+        /** How many parts the formula would have that an op makes of its sides. */
+        int partsBehind(int op) {
+            int parts = 1;
+            for (int side = 1; side <= Formula.sidesOf(op); side++) {
+                parts += formulas[tops - side].parts;
+            }
+            return parts;
+        }
+
+        int unite(int op) {
+            if (Formula.sidesOf(op) == 2) {
+                tops--;
+                formulas[tops - 1].appendAll(formulas[tops]);
+            }
+            formulas[tops - 1].append(op, 0, 0);
+            return tops;
+        }
+    }
+
+    /** The conditions that are no longer on the pile. */
     private static final class Conditions {
-        final Formula[] formulas = new Formula[MOST_CONDITIONS + 1];
+        final Formula[] formulas = new Formula[MOST_CONDITIONS];
         int total;
 
         Conditions() {
-            for (int c = 0; c <= MOST_CONDITIONS; c++) {
+            for (int c = 0; c < MOST_CONDITIONS; c++) {
                 formulas[c] = new Formula();
             }
         }
@@ -763,27 +800,11 @@ public final class PerhapsWas {
             return c >= 0 && c < total;
         }
 
-        Formula pile() {
-            return formulas[total];
-        }
-
-        int keepPile() {
+        int keep(Formula formula) {
+            formulas[total].parts = 0;
+            formulas[total].appendAll(formula);
             total++;
-            pile().empty();
             return total - 1;
-        }
-
-        int dropPile() {
-            int went = pile().tops;
-            pile().empty();
-            return went;
-        }
-
-        int dropAll() {
-            int went = total;
-            total = 0;
-            pile().empty();
-            return went;
         }
     }
 

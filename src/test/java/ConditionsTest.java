@@ -11,6 +11,9 @@ public final class ConditionsTest {
         op();
         ops();
         mostParts();
+        mostPartsOfEach();
+        partsOfBothSides();
+        sidesOfSeveral();
         condition();
         clear();
         value();
@@ -148,6 +151,19 @@ public final class ConditionsTest {
         due.is("7: not 0", reckon(-3, 0, 7), 0);
     }
 
+    /** A NUMBER comes, and more of them that are added to it, or ops 7 on it: the top has so many parts. */
+    private static void top(PerhapsWas x, int parts) {
+        x.number(1);
+        for (int k = 1; k < parts; k += 2) {
+            if (k + 1 == parts) {
+                x.op(7);
+            } else {
+                x.number(1);
+                x.op(0);
+            }
+        }
+    }
+
     private static void mostParts() {
         PerhapsWas x = new PerhapsWas();
         x.number(1);
@@ -155,9 +171,6 @@ public final class ConditionsTest {
             x.number(1);
             due.is("op, parts " + (3 + 2 * k), x.op(0), 1);
         }
-        due.is("number, 16 parts", x.number(1), FULL);
-        due.is("part, 16 parts", x.part(0, 0, 0), FULL);
-        due.is("part, BAD ahead of FULL", x.part(1, 0, 0), BAD);
         due.is("op 7, 16 parts", x.op(7), FULL);
         due.is("op 0, STATE ahead of FULL", x.op(0), STATE);
         due.is("op 8, NONE ahead of FULL", x.op(8), NONE);
@@ -171,6 +184,71 @@ public final class ConditionsTest {
         due.is("op 7, part 16", x.op(7), FULL);
         due.is("clear", x.clear(0), 1);
         due.is("number behind clear", x.number(1), 1);
+    }
+
+    /** The limit of 15 parts is that of each on the pile, not of all together. */
+    private static void mostPartsOfEach() {
+        PerhapsWas x = new PerhapsWas();
+        top(x, 15);
+        due.is("number beside one of 15 parts", x.number(1), 2);
+        due.is("part beside one of 15 parts", x.part(2, 0, 0), 3);
+        due.is("op beside one of 15 parts", x.op(0), 2);
+        due.is("op 7 beside one of 15 parts", x.op(7), 2);
+        due.is("op of sides of 15 and 4 parts", x.op(0), FULL);
+        due.is("it changes nothing", x.count(5), 2);
+        due.is("op 7 behind that", x.op(7), 2);
+        x.clear(0);
+        for (int k = 1; k <= 6; k++) {
+            top(x, k == 6 ? 1 : 15);
+            due.is("tops", x.count(5), k);
+        }
+        due.is("seventh number", x.number(1), FULL);
+        due.is("seventh part", x.part(0, 0, 0), FULL);
+        due.is("part, BAD ahead of FULL", x.part(1, 0, 0), BAD);
+        for (int k = 2; k <= 15; k++) {
+            due.is("sixth top, part " + k, x.op(7), 6);
+        }
+        for (int op = 0; op < 8; op++) {
+            due.is("op of six of 15 parts", x.op(op), FULL);
+        }
+        due.is("condition of six", x.condition(), STATE);
+        due.is("six went", x.clear(0), 6);
+    }
+
+    private static void partsOfBothSides() {
+        for (int left = 1; left <= 15; left++) {
+            for (int right = 1; right <= 15; right++) {
+                PerhapsWas x = new PerhapsWas();
+                x.number(5);
+                top(x, left);
+                top(x, right);
+                String told = "op of " + left + " and " + right + " parts";
+                boolean fits = left + right + 1 <= 15;
+                due.is(told, x.op(1), fits ? 2 : FULL);
+                due.is(told + ", tops", x.count(5), fits ? 2 : 3);
+                due.is(told + ", op 7 behind", x.op(7), right == 15 || left + right + 1 == 15 ? FULL : fits ? 2 : 3);
+            }
+        }
+    }
+
+    /** Each side keeps its own parts, however many lie below and above it. */
+    private static void sidesOfSeveral() {
+        PerhapsWas x = new PerhapsWas();
+        top(x, 5);
+        top(x, 3);
+        x.number(10);
+        x.number(4);
+        due.is("10 - 4", x.op(1), 3);
+        due.is("2 - 6", x.op(1), 2);
+        due.is("3 * -4", x.op(2), 1);
+        due.is("condition", x.condition(), 0);
+        due.is("its value", x.value(0, 0), -12);
+        x.number(7);
+        x.number(9);
+        due.is("another one on the same pile", x.op(0), 1);
+        due.is("condition 1", x.condition(), 1);
+        due.is("value 1", x.value(1, 0), 16);
+        due.is("value 0, as it was", x.value(0, 0), -12);
     }
 
     private static void condition() {

@@ -267,12 +267,8 @@ final class PlainModel {
         return allOrders().get((int) n)[i];
     }
 
-    private int partsOnPile() {
-        return pile.stream().mapToInt(List::size).sum();
-    }
-
     private int leaf(Part part) {
-        if (pile.size() == 6 || partsOnPile() == 15) return FULL;
+        if (pile.size() == 6) return FULL;
         pile.add(new ArrayList<>(List.of(part)));
         return pile.size();
     }
@@ -290,7 +286,8 @@ final class PlainModel {
     int op(int op) {
         if (op < 0 || op > 7) return NONE;
         if (pile.size() < (op == 7 ? 1 : 2)) return STATE;
-        if (partsOnPile() == 15) return FULL;
+        int sides = pile.get(pile.size() - 1).size() + (op == 7 ? 0 : pile.get(pile.size() - 2).size());
+        if (sides + 1 > 15) return FULL;
         List<Part> right = op == 7 ? List.of() : pile.remove(pile.size() - 1);
         List<Part> side = pile.get(pile.size() - 1);
         side.addAll(right);
