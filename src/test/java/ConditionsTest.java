@@ -37,34 +37,6 @@ public final class ConditionsTest {
         return x;
     }
 
-    /** A condition that holds just at the cut with a and b events of the processes 0 and 1. */
-    private static void at(PerhapsWas x, int a, int b) {
-        x.part(2, 0, 0);
-        x.number(a);
-        x.op(4);
-        x.part(2, 1, 0);
-        x.number(b);
-        x.op(4);
-        x.op(5);
-    }
-
-    private static int conditionAt(PerhapsWas x, int a, int b) {
-        at(x, a, b);
-        return x.condition();
-    }
-
-    private static int conditionAtTwo(PerhapsWas x, int a, int b, int c, int d) {
-        at(x, a, b);
-        at(x, c, d);
-        x.op(6);
-        return x.condition();
-    }
-
-    private static int constant(PerhapsWas x, int v) {
-        x.number(v);
-        return x.condition();
-    }
-
     private static void number() {
         PerhapsWas x = new PerhapsWas();
         for (int k = 1; k <= 6; k++) {
@@ -151,19 +123,6 @@ public final class ConditionsTest {
         due.is("7: not 0", reckon(-3, 0, 7), 0);
     }
 
-    /** A NUMBER comes, and more of them that are added to it, or ops 7 on it: the top has so many parts. */
-    private static void top(PerhapsWas x, int parts) {
-        x.number(1);
-        for (int k = 1; k < parts; k += 2) {
-            if (k + 1 == parts) {
-                x.op(7);
-            } else {
-                x.number(1);
-                x.op(0);
-            }
-        }
-    }
-
     private static void mostParts() {
         PerhapsWas x = new PerhapsWas();
         x.number(1);
@@ -189,7 +148,7 @@ public final class ConditionsTest {
     /** The limit of 15 parts is that of each on the pile, not of all together. */
     private static void mostPartsOfEach() {
         PerhapsWas x = new PerhapsWas();
-        top(x, 15);
+        Made.top(x, 15);
         due.is("number beside one of 15 parts", x.number(1), 2);
         due.is("part beside one of 15 parts", x.part(2, 0, 0), 3);
         due.is("op beside one of 15 parts", x.op(0), 2);
@@ -199,7 +158,7 @@ public final class ConditionsTest {
         due.is("op 7 behind that", x.op(7), 2);
         x.clear(0);
         for (int k = 1; k <= 6; k++) {
-            top(x, k == 6 ? 1 : 15);
+            Made.top(x, k == 6 ? 1 : 15);
             due.is("tops", x.count(5), k);
         }
         due.is("seventh number", x.number(1), FULL);
@@ -220,8 +179,8 @@ public final class ConditionsTest {
             for (int right = 1; right <= 15; right++) {
                 PerhapsWas x = new PerhapsWas();
                 x.number(5);
-                top(x, left);
-                top(x, right);
+                Made.top(x, left);
+                Made.top(x, right);
                 String told = "op of " + left + " and " + right + " parts";
                 boolean fits = left + right + 1 <= 15;
                 due.is(told, x.op(1), fits ? 2 : FULL);
@@ -234,8 +193,8 @@ public final class ConditionsTest {
     /** Each side keeps its own parts, however many lie below and above it. */
     private static void sidesOfSeveral() {
         PerhapsWas x = new PerhapsWas();
-        top(x, 5);
-        top(x, 3);
+        Made.top(x, 5);
+        Made.top(x, 3);
         x.number(10);
         x.number(4);
         due.is("10 - 4", x.op(1), 3);
@@ -261,7 +220,7 @@ public final class ConditionsTest {
         due.is("condition", x.condition(), 0);
         due.is("it goes from the pile", x.count(5), 0);
         for (int c = 1; c < 8; c++) {
-            due.is("condition " + c, constant(x, 10 + c), c);
+            due.is("condition " + c, Made.constant(x, 10 + c), c);
         }
         due.is("condition of none, STATE ahead of FULL", x.condition(), STATE);
         x.number(99);
@@ -276,8 +235,8 @@ public final class ConditionsTest {
         PerhapsWas x = new PerhapsWas();
         due.is("clear(0) of nothing", x.clear(0), 0);
         due.is("clear(1) of nothing", x.clear(1), 0);
-        constant(x, 5);
-        constant(x, 6);
+        Made.constant(x, 5);
+        Made.constant(x, 6);
         x.number(1);
         x.number(2);
         x.number(3);
@@ -294,13 +253,13 @@ public final class ConditionsTest {
         due.is("no conditions", x.count(4), 0);
         due.is("none on the pile", x.count(5), 0);
         due.is("condition 0 is no more", x.may(0), NONE);
-        due.is("numbers begin again", constant(x, 7), 0);
+        due.is("numbers begin again", Made.constant(x, 7), 0);
         due.is("with its own value", x.value(0, 0), 7);
     }
 
     private static void value() {
         PerhapsWas x = grid();
-        conditionAt(x, 1, 2);
+        Made.conditionAt(x, 1, 2);
         due.is("status() at first", x.status(), 0);
         due.is("value at no cut", x.value(0, 3), 0);
         due.is("status() NONE", x.status(), NONE);
@@ -358,23 +317,23 @@ public final class ConditionsTest {
 
     private static void mayLastMany() {
         PerhapsWas x = grid();
-        int two = conditionAtTwo(x, 1, 2, 2, 0);
+        int two = Made.conditionAtTwo(x, 1, 2, 2, 0);
         due.is("may: by size", x.may(two), 2);
         due.is("last", x.last(two), 15);
         due.is("many", x.many(two), 2);
-        int none = constant(x, 0);
+        int none = Made.constant(x, 0);
         due.is("may, nowhere", x.may(none), NONE);
         due.is("last, nowhere", x.last(none), NONE);
         due.is("many, nowhere", x.many(none), 0);
-        int all = constant(x, -1);
+        int all = Made.constant(x, -1);
         due.is("may, everywhere", x.may(all), 0);
         due.is("last, everywhere", x.last(all), 16);
         due.is("many, everywhere", x.many(all), 9);
-        int level = conditionAtTwo(x, 0, 1, 1, 0);
+        int level = Made.conditionAtTwo(x, 0, 1, 1, 0);
         due.is("may: then by number", x.may(level), 1);
         due.is("last: then by number", x.last(level), 7);
         x.wait(1, 0);
-        int late = conditionAt(x, 1, 3);
+        int late = Made.conditionAt(x, 1, 3);
         due.is("not at cuts that are not possible", x.may(late), NONE);
         due.is("nor last", x.last(late), NONE);
         due.is("nor counted", x.many(late), 0);
@@ -383,7 +342,7 @@ public final class ConditionsTest {
 
     private static void sureAvoidAvoids() {
         PerhapsWas x = grid();
-        int middle = conditionAt(x, 1, 1);
+        int middle = Made.conditionAt(x, 1, 1);
         due.is("sure, middle", x.sure(middle), 0);
         due.is("avoids, middle", x.avoids(middle), 2);
         int[] first = {0, 0, 1, 1};
@@ -392,9 +351,9 @@ public final class ConditionsTest {
         }
         due.is("avoid, i 4", x.avoid(middle, 4), NONE);
         due.is("avoid, i -1", x.avoid(middle, -1), NONE);
-        int start = conditionAt(x, 0, 0);
-        int end = conditionAt(x, 2, 2);
-        int never = constant(x, 0);
+        int start = Made.conditionAt(x, 0, 0);
+        int end = Made.conditionAt(x, 2, 2);
+        int never = Made.constant(x, 0);
         due.is("sure at the start", x.sure(start), 1);
         due.is("sure at the end", x.sure(end), 1);
         due.is("never sure", x.sure(never), 0);
@@ -403,7 +362,7 @@ public final class ConditionsTest {
         due.is("avoids nothing", x.avoids(never), 6);
         due.is("avoid the end", x.avoid(end, 0), NONE);
         due.is("avoid nothing", x.avoid(never, 0), 0);
-        int side = conditionAt(x, 1, 0);
+        int side = Made.conditionAt(x, 1, 0);
         due.is("avoid, side", x.avoid(side, 0), 1);
         due.is("avoids, side", x.avoids(side), 3);
         x.part(2, 0, 0);
@@ -415,8 +374,8 @@ public final class ConditionsTest {
         due.is("sure, all of a size", x.sure(level), 1);
         due.is("avoids, all of a size", x.avoids(level), 0);
         PerhapsWas empty = new PerhapsWas();
-        constant(empty, 0);
-        constant(empty, 1);
+        Made.constant(empty, 0);
+        Made.constant(empty, 1);
         due.is("without events, not sure", empty.sure(0), 0);
         due.is("without events, sure", empty.sure(1), 1);
         due.is("without events, avoids", empty.avoids(0), 1);
@@ -426,12 +385,12 @@ public final class ConditionsTest {
     private static void is() {
         PerhapsWas x = grid();
         int[][] conditions = {
-            {conditionAtTwo(x, 0, 1, 1, 0), 0, 0, 0},
-            {conditionAt(x, 1, 1), 0, 1, 1},
-            {conditionAt(x, 2, 2), 1, 1, 1},
-            {conditionAtTwo(x, 0, 0, 2, 1), 0, 1, 1},
-            {constant(x, 0), 1, 1, 1},
-            {constant(x, 1), 1, 1, 1},
+            {Made.conditionAtTwo(x, 0, 1, 1, 0), 0, 0, 0},
+            {Made.conditionAt(x, 1, 1), 0, 1, 1},
+            {Made.conditionAt(x, 2, 2), 1, 1, 1},
+            {Made.conditionAtTwo(x, 0, 0, 2, 1), 0, 1, 1},
+            {Made.constant(x, 0), 1, 1, 1},
+            {Made.constant(x, 1), 1, 1, 1},
         };
         for (int[] c : conditions) {
             for (int what = 0; what < 3; what++) {
@@ -460,11 +419,11 @@ public final class ConditionsTest {
 
     private static void before() {
         PerhapsWas x = grid();
-        int start = conditionAt(x, 0, 0);
-        int middle = conditionAt(x, 1, 1);
-        int end = conditionAt(x, 2, 2);
-        int never = constant(x, 0);
-        int always = constant(x, 1);
+        int start = Made.conditionAt(x, 0, 0);
+        int middle = Made.conditionAt(x, 1, 1);
+        int end = Made.conditionAt(x, 2, 2);
+        int never = Made.constant(x, 0);
+        int always = Made.constant(x, 1);
         due.is("start before end", x.before(start, end), 1);
         due.is("end not before start", x.before(end, start), 0);
         due.is("that very one", x.before(middle, middle), 1);
@@ -473,15 +432,15 @@ public final class ConditionsTest {
         due.is("one that never is", x.before(never, end), 0);
         due.is("before all", x.before(always, always), 1);
         due.is("end before all", x.before(end, always), 0);
-        int around = conditionAtTwo(x, 0, 0, 2, 2);
+        int around = Made.conditionAtTwo(x, 0, 0, 2, 2);
         due.is("each of them, not only the last", x.before(middle, around), 0);
-        due.is("orders without d do not matter", x.before(conditionAt(x, 1, 0), conditionAt(x, 2, 0)), 1);
+        due.is("orders without d do not matter", x.before(Made.conditionAt(x, 1, 0), Made.conditionAt(x, 2, 0)), 1);
     }
 
     private static void largest() {
         PerhapsWas x = Made.full();
-        int all = constant(x, 1);
-        int none = constant(x, 0);
+        int all = Made.constant(x, 1);
+        int none = Made.constant(x, 0);
         x.part(0, 0, 2);
         x.part(0, 1, 2);
         x.op(0);
@@ -513,7 +472,7 @@ public final class ConditionsTest {
 
     private static void noSuchCondition() {
         PerhapsWas x = grid();
-        constant(x, 1);
+        Made.constant(x, 1);
         int[] none = {1, -1, 8, LOW, HIGH};
         for (int c : none) {
             due.is("may(" + c + ")", x.may(c), NONE);

@@ -197,19 +197,8 @@ public final class EventsTest {
         due.is("cuts behind undo", x.cuts(-1), 4);
     }
 
-    private static PerhapsWas allKinds() {
-        PerhapsWas x = Made.with(3);
-        x.own(0, 2, 9, 0);
-        x.own(0, 1, 9, 1);
-        x.send(1, 2);
-        x.send(0, 1);
-        x.take(1);
-        x.wait(0, 2);
-        return x;
-    }
-
     private static void event() {
-        PerhapsWas x = allKinds();
+        PerhapsWas x = Made.allKinds();
         int[][] events = {{0, 0, 0, 2, 0}, {0, 1, 1, 1, 1}, {1, 0, 2, 0, 2}, {0, 2, 2, 1, 3}, {1, 1, 3, 1, 4}, {0, 3, 4, 2, 5}};
         for (int[] e : events) {
             for (int what = 0; what < 3; what++) {
@@ -227,7 +216,7 @@ public final class EventsTest {
     }
 
     private static void letter() {
-        PerhapsWas x = allKinds();
+        PerhapsWas x = Made.allKinds();
         int[][] letters = {{1, 2, 0, NONE}, {0, 1, 2, 1}};
         for (int l = 0; l < 2; l++) {
             for (int what = 0; what < 4; what++) {
@@ -241,7 +230,7 @@ public final class EventsTest {
     }
 
     private static void ahead() {
-        PerhapsWas x = allKinds();
+        PerhapsWas x = Made.allKinds();
         due.is("in a row", x.ahead(0, 0, 0, 3), 1);
         due.is("in a row, the other way", x.ahead(0, 3, 0, 0), 2);
         due.is("one", x.ahead(0, 2, 0, 2), 0);
@@ -258,7 +247,7 @@ public final class EventsTest {
     }
 
     private static void clock() {
-        PerhapsWas x = allKinds();
+        PerhapsWas x = Made.allKinds();
         due.is("its own", x.clock(0, 3, 0), 4);
         due.is("its own first", x.clock(1, 0, 1), 1);
         due.is("nothing ahead", x.clock(1, 0, 0), 0);

@@ -23,12 +23,6 @@ public final class RowTest {
         return x;
     }
 
-    private static void tell(PerhapsWas x, String row) {
-        for (int k = 0; k < row.length(); k++) {
-            x.say(row.charAt(k) - '0');
-        }
-    }
-
     private static void say() {
         PerhapsWas x = new PerhapsWas();
         due.is("say(4)", x.say(4), BAD);
@@ -50,11 +44,11 @@ public final class RowTest {
         String[] rows = {"", "0", "01", "0011", "0101", "1001", "011", "0110", "11", "000", "2", "03", "1000", "00111", "00112"};
         int[] want = {0, 1, 2, 100, 100, 100, 2, 2, 1, 2, 0, 1, 3, 4, 4};
         for (int k = 0; k < rows.length; k++) {
-            tell(x, rows[k]);
+            Made.tell(x, rows[k]);
             due.is("check() of " + rows[k], x.check(), want[k]);
             due.is("empty behind " + rows[k], x.count(6), 0);
         }
-        tell(x, "001");
+        Made.tell(x, "001");
         x.undo();
         due.is("check() behind undo", x.check(), 100);
         due.is("check() of no events", new PerhapsWas().check(), 100);
@@ -62,15 +56,15 @@ public final class RowTest {
 
     private static void longest() {
         PerhapsWas x = Made.full();
-        tell(x, "012301230123012301230123");
+        Made.tell(x, "012301230123012301230123");
         due.is("check() of 24", x.check(), 100);
-        tell(x, "012301230123012301230120");
+        Made.tell(x, "012301230123012301230120");
         due.is("check(), the last one wrong", x.check(), 23);
-        tell(x, "01230123012301230123012");
+        Made.tell(x, "01230123012301230123012");
         due.is("check(), one missing", x.check(), 23);
         x.number(0);
         x.condition();
-        tell(x, "012301230123012301230123");
+        Made.tell(x, "012301230123012301230123");
         due.is("passes, 24 and never", x.passes(0), NONE);
         x.part(2, 3, 0);
         x.number(6);
@@ -89,21 +83,21 @@ public final class RowTest {
         x.condition();
         due.is("passes, no events told, never", x.passes(0), NONE);
         due.is("passes at the start", x.passes(1), 0);
-        tell(x, "0100");
+        Made.tell(x, "0100");
         due.is("passes, STATE", x.passes(0), STATE);
         due.is("passes, STATE though it held", x.passes(1), STATE);
         due.is("passes, STATE though it never would", x.passes(2), STATE);
         due.is("passes, NONE ahead of STATE", x.passes(3), NONE);
         due.is("the row stays", x.count(6), 4);
         x.check();
-        tell(x, "010");
+        Made.tell(x, "010");
         due.is("passes, a beginning", x.passes(0), 3);
         due.is("passes, never", x.passes(2), NONE);
         x.say(1);
         due.is("passes, an order", x.passes(0), 3);
         due.is("the row stays", x.count(6), 4);
         due.is("check()", x.check(), 100);
-        tell(x, "2");
+        Made.tell(x, "2");
         due.is("passes, no such process", x.passes(0), STATE);
     }
 
