@@ -73,6 +73,14 @@ final class BoundsOfConditionTerms {
         x.op(1);
         x.condition();
         b.is("a side of one is the uppermost", x.value(1, 0), 7);
+        for (int v : numbers) {
+            x.number(v);
+        }
+        x.op(7);
+        for (int k = 0; k < 5; k++) {
+            x.op(0);
+        }
+        b.is("a side of one on top of five", x.value(x.condition(), 0), 54321);
     }
 
     private static void number(Bounds b) {
@@ -129,6 +137,12 @@ final class BoundsOfConditionTerms {
         b.is("the last is taken, not sent", x.value(there, 5 + 7), 5);
         x.undo();
         b.is("a TAKE that was taken back", x.value(there, 6 + 7 * 4), 2);
+        PerhapsWas most = Made.with(4);
+        for (int l = 0; l < 24; l++) {
+            most.send(l / 6, (l / 6 + 1) % 4);
+        }
+        b.is("of as many as there can be, the first", most.value(Made.ofPart(most, 1, 0, 1), 2400), 6);
+        b.is("of as many as there can be, the last", most.value(Made.ofPart(most, 1, 3, 0), 2400), 6);
     }
 
     private static void events(Bounds b) {

@@ -556,6 +556,9 @@ final class BoundsOfConditions {
             }
         }
         b.is("no events", emptyWith(0).avoid(0, 0), NONE);
+        x.orders();
+        b.is("no CONDITION, behind orders()", x.avoid(4, 0), NONE);
+        b.is("no ORDER, behind orders()", x.avoid(0, 0), NONE);
         PerhapsWas full = Made.full();
         b.is("event 24 of all", full.avoid(Made.constant(full, 0), 24), NONE);
     }
@@ -615,6 +618,11 @@ final class BoundsOfConditions {
         for (int what = 0; what < 3; what++) {
             b.is("of no events", emptyWith(1).is(0, what), 1);
             b.is("nowhere, of no events", emptyWith(0).is(0, what), 1);
+            PerhapsWas full = Made.full();
+            b.is("everywhere, of all", full.is(Made.constant(full, 1), what), 1);
+            b.is("just at the last of all", full.is(lastOfFour(full), what), 1);
+            b.is("all rows 0 and 1, of all", full.is(Made.conditionAt(full, 6, 6), what), 1);
+            b.is("no rows 0 and 1, of all", full.is(Made.conditionAt(full, 0, 0), what), what == 0 ? 0 : 1);
         }
     }
 
@@ -644,6 +652,10 @@ final class BoundsOfConditions {
         b.is("c nowhere", x.before(never, last), 0);
         b.is("d at the first, too", x.before(middle, Made.conditionAtTwo(x, 0, 0, 2, 2)), 0);
         b.is("all ORDERS that PASS d", x.before(Made.conditionAt(x, 1, 0), Made.conditionAt(x, 2, 0)), 1);
+        PerhapsWas full = Made.full();
+        int end = lastOfFour(full);
+        b.is("everywhere, the last of all", full.before(Made.constant(full, 1), end), 1);
+        b.is("nowhere, the last of all", full.before(Made.constant(full, 0), end), 0);
         PerhapsWas y = letterRun();
         b.is("d just at one that is not POSSIBLE", y.before(Made.constant(y, 0), Made.conditionAt(y, 0, 2)), 1);
         b.is("c just at one that is not POSSIBLE", y.before(Made.conditionAt(y, 0, 2), Made.conditionAt(y, 1, 2)), 0);

@@ -233,6 +233,9 @@ final class BoundsOfCuts {
         b.is("the last one waits for all of the other row", x.orders(), 462);
         x.undo();
         b.is("behind undo()", x.orders(), 462);
+        int always = Made.constant(x, 1);
+        b.is("none of them avoids what is always", x.avoids(always), 0);
+        b.is("they are still as many", x.orders(), 462);
     }
 
     private static void p17Most(Bounds b) {

@@ -355,7 +355,10 @@ final class BoundsOfEvents {
         b.is("with what is new", x.letter(1, 0), 1);
         b.is("and is not taken", x.letter(1, 3), NONE);
         int underWay = Made.ofPart(x, 1, 1, 2);
-        b.is("under way", x.value(underWay, 7 + 1), 1);
+        b.is("it is under way", x.value(underWay, 7 + 1), 1);
+        x.undo();
+        x.own(1, 0, 1, 0);
+        b.is("no more", x.value(underWay, 7 + 1), 0);
     }
 
     private static void p07UndoOfAll(Bounds b) {

@@ -125,6 +125,12 @@ final class BoundsOfTerms {
             b.is("NAME 3", Made.with(4).own(p, 3, 0, 0), NONE);
             b.is("NAME -1", Made.with(4).own(p, -1, 0, 0), NONE);
         }
+        PerhapsWas full = Made.full();
+        for (int p = 0; p < 4; p++) {
+            int c = Made.ofPart(full, 0, p, 2);
+            b.is("of " + p + " at first, beside six events of all others", full.value(c, 2400 - 6 * Made.WEIGHTS[p]), 0);
+            b.is("of " + p + " behind all", full.value(c, 2400), 6);
+        }
     }
 
     private static void letters(Bounds b) {

@@ -12,6 +12,7 @@ public final class BoundsTest {
         BoundsOfCuts.all(b);
         BoundsOfConditions.all(b);
         BoundsOfRow.all(b);
+        BoundsOfChanges.all(b);
         b.end();
     }
 }

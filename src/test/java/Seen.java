@@ -40,7 +40,7 @@ final class Seen {
 
     private void events() {
         for (int p = 0; p < 4; p++) {
-            for (int i = 0; x.event(p, i, 0) != NONE; i++) {
+            for (int i = 0; i <= 6 && x.event(p, i, 0) != NONE; i++) {
                 for (int what = 0; what < 3; what++) {
                     add(x.event(p, i, what));
                 }
