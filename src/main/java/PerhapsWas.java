@@ -919,8 +919,8 @@ public final class PerhapsWas {
             return true;
         }
 
-        // A cut without a mark is the meet of two marked ones just if it is the meet of all marked
-        // ones above it; so one walk down the net does, instead of one over all pairs.
+        // If each two marked cuts have their meet among them, so have any number of them; so it is enough
+        // to look for a cut without a mark that is the meet of all marked ones above it, in one walk down.
         boolean areMet(Net net) {
             for (int k = net.total - 1; k >= 0; k--) {
                 int cut = net.inOrder[k];
